@@ -62,7 +62,7 @@ public final class GroundTents {
     // ---- ground, tents
 
     public int height(int cell, int v) {
-        if (!isCell(cell) || !isShare(v)) {
+        if (!isCell(cell) || !isMeasure(v)) {
             return finding(BEYOND);
         }
         int was = camp.heights[cell];
@@ -154,7 +154,7 @@ public final class GroundTents {
     // ---- flocks
 
     public int way(int from, int to, int climb) {
-        if (!isCell(from) || !isCell(to) || !isShare(climb)) {
+        if (!isCell(from) || !isCell(to) || !isMeasure(climb)) {
             return finding(BEYOND);
         }
         int steps = flock.stepsBetween(camp, from, to, climb);
@@ -169,7 +169,7 @@ public final class GroundTents {
     }
 
     public int reach(int from, int climb) {
-        if (!isCell(from) || !isShare(climb)) {
+        if (!isCell(from) || !isMeasure(climb)) {
             return finding(BEYOND);
         }
         flock.roam(camp, from, climb);
@@ -177,7 +177,7 @@ public final class GroundTents {
     }
 
     public int drink(int from, int climb) {
-        if (!isCell(from) || !isShare(climb)) {
+        if (!isCell(from) || !isMeasure(climb)) {
             return finding(BEYOND);
         }
         flock.roam(camp, from, climb);
@@ -206,7 +206,7 @@ public final class GroundTents {
     }
 
     public int when(int from, int to, int climb) {
-        if (!isCell(from) || !isCell(to) || !isShare(climb)) {
+        if (!isCell(from) || !isCell(to) || !isMeasure(climb)) {
             return finding(BEYOND);
         }
         trial.becomeLike(camp);
@@ -232,7 +232,7 @@ public final class GroundTents {
     }
 
     public int lies(int tent, int d) {
-        if (!isTent(tent) || !isShare(d)) {
+        if (!isTent(tent) || !isMeasure(d)) {
             return finding(BEYOND);
         }
         if (!camp.tents[tent].isPitched()) {
@@ -271,7 +271,7 @@ public final class GroundTents {
     }
 
     public int pitchFor(int tent, int from, int to, int climb) {
-        if (!isTent(tent) || !isCell(from) || !isCell(to) || !isShare(climb)) {
+        if (!isTent(tent) || !isCell(from) || !isCell(to) || !isMeasure(climb)) {
             return finding(BEYOND);
         }
         for (int p = 0; p < PITCHES; p++) {
@@ -312,7 +312,7 @@ public final class GroundTents {
     }
 
     public int out(int tent, int pitch, int h, int d) {
-        if (!isTent(tent) || !isPitch(pitch) || !isShare(h) || !isShare(d)) {
+        if (!isTent(tent) || !isPitch(pitch) || !isMeasure(h) || !isMeasure(d)) {
             return finding(BEYOND);
         }
         supposeAlone(tent, pitch);
@@ -393,7 +393,7 @@ public final class GroundTents {
         long above = camp.dryPitches();
         long below = PITCHES;
         // 16 has no other divisors than these, so halving is all that lowest terms ask
-        while (below > 1 && above % 2 == 0) {
+        for (int i = 0; i < 4 && above % 2 == 0; i++) {
             above /= 2;
             below /= 2;
         }
@@ -512,7 +512,7 @@ public final class GroundTents {
         }
         int most = Math.min(sheets[s].size, CELLS);
         for (int i = 0; i < most; i++) {
-            if (!isShare(sheets[s].numbers[i])) {
+            if (!isMeasure(sheets[s].numbers[i])) {
                 return i;
             }
             camp.heights[i] = sheets[s].numbers[i];
@@ -525,7 +525,7 @@ public final class GroundTents {
         if (lack != NOTHING) {
             return finding(lack);
         }
-        if (!isShare(climb)) {
+        if (!isMeasure(climb)) {
             return finding(BEYOND);
         }
         int[] numbers = sheets[s].numbers;
@@ -616,8 +616,8 @@ public final class GroundTents {
         return within(s, 0, SHEETS - 1);
     }
 
-    /** Heights, climbs, differences and wear all share one range. */
-    private static boolean isShare(int v) {
+    /** Heights, climbs, differences and wear are all told from 0 to 99. */
+    private static boolean isMeasure(int v) {
         return within(v, 0, MOST);
     }
 
@@ -709,8 +709,8 @@ public final class GroundTents {
             switch (what) {
                 case 0: return isKind(v);
                 case 1: return v == NOTHING || isPitch(v);
-                case 2: return isShare(v);
-                default: return within(what, 4, 7) && (v == NOTHING || isShare(v));
+                case 2: return isMeasure(v);
+                default: return within(what, 4, 7) && (v == NOTHING || isMeasure(v));
             }
         }
 

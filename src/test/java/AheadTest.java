@@ -74,20 +74,29 @@ public final class AheadTest {
     }
 
     /** The same, with a soft tent that lies level only once nothing rises any more. */
-    private static GroundTents slowLevel(int feltOfTent) {
+    private static GroundTents slowLevel(int old, int chiefs, int tent) {
         GroundTents x = Check.camp("soft on 0;old on 0;chiefs on 0;tent on 0;height 0 0");
         x.change(0, 4, 99);
-        x.change(2, 4, 2);
-        x.change(3, 4, feltOfTent);
+        x.change(1, 4, old);
+        x.change(2, 4, chiefs);
+        x.change(3, 4, tent);
         return x;
     }
 
     private static void slowOnes() {
-        for (int f = -1; f < 8; f++) {
-            int level = daysUntilLevel(slowLevel(f));
-            Check.due("19: level, tent of felt " + f, level > 100 ? Check.NONE : level, slowLevel(f).lies(0, 0));
-            int still = daysUntilStill(slowLevel(f));
-            Check.due("18: settled, tent of felt " + f, still > 100 ? Check.NONE : still, slowLevel(f).settles());
+        // felt of the old one, the chiefs and the tent; days until the ground is still; the soft one lies level a day later
+        int[][] camps = {{1, 4, 5, 99}, {1, 4, 4, 99}, {-1, 2, 2, 100}, {0, 1, 4, 100}, {-1, 0, 0, 101}, {0, -1, 2, 101}};
+        for (int[] c : camps) {
+            String felt = c[0] + ", " + c[1] + ", " + c[2];
+            int still = c[3];
+            Check.due("18: days by going, felt " + felt, still, daysUntilStill(slowLevel(c[0], c[1], c[2])));
+            Check.due("19: days by going, felt " + felt, still + 1, daysUntilLevel(slowLevel(c[0], c[1], c[2])));
+            GroundTents x = slowLevel(c[0], c[1], c[2]);
+            Check.due("18: settles, felt " + felt, still > 100 ? Check.NONE : still, x.settles());
+            Check.due("19: lies, felt " + felt, still + 1 > 100 ? Check.NONE : still + 1, x.lies(0, 0));
+            x.go(2);
+            Check.due("18: settles two days on, felt " + felt, still - 2, x.settles());
+            Check.due("19: lies two days on, felt " + felt, still - 1, x.lies(0, 0));
         }
     }
 

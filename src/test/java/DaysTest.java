@@ -6,6 +6,7 @@ public final class DaysTest {
         oldFelt();
         order();
         go();
+        lastDay();
         now();
         Check.end();
     }
@@ -89,6 +90,33 @@ public final class DaysTest {
         Check.due("9: sixty days", 60, x.now(0));
         Check.due("9: go(1)", 1254, x.go(1));
         Check.due("9: sixty-one days", 61, x.count(0));
+    }
+
+    /** Only more calls than an object is used for lead there; what the words ask is tested all the same. */
+    private static void lastDay() {
+        GroundTents x = Check.camp("stiff on 0 felt 1 1 1 1");
+        for (int i = 0; i < 1666; i++) {
+            x.go(60);
+        }
+        x.height(0, 50);
+        Check.due("9: one day too many", Check.STATE, x.go(40));
+        Check.due("9: BEYOND is asked ahead of STATE", Check.BEYOND, x.go(61));
+        Check.due("9: a finding is no day", 99960, x.now(0));
+        Check.due("9: no height changes", 50, x.cell(0, 0));
+        x.go(20);
+        Check.due("28: one day too many", Check.STATE, x.nomads(20));
+        Check.due("28: a finding draws nothing", 1, x.count(6));
+        x.image();
+        x.go(19);
+        Check.due("9: up to the last day", 99999, x.now(0));
+        x.undo();
+        x.nomads(19);
+        Check.due("9: the last day", 99999, x.now(0));
+        Check.due("9: no more", Check.STATE, x.go(1));
+        Check.due("28: no more", Check.STATE, x.nomads(1));
+        x.height(6, 9);
+        x.change(0, 1, 5);
+        Check.due("15: what would be is told all the same", 1, x.ahead(6, 1));
     }
 
     private static void now() {

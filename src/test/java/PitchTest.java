@@ -4,6 +4,7 @@ public final class PitchTest {
         unlike();
         home();
         pitchFor();
+        winding();
         kindFor();
         first();
         out();
@@ -73,6 +74,19 @@ public final class PitchTest {
         }
     }
 
+    /** A ridge that winds through all rows, and of which each pitch has a part. */
+    private static void winding() {
+        GroundTents x = Check.camp("stiff felt 99 99 99 99");
+        Check.ground(x,
+            50, 50, 50, 50, 50,
+            0, 0, 0, 0, 50,
+            50, 50, 50, 50, 50,
+            50, 0, 0, 0, 0,
+            50, 50, 50, 50, 50);
+        Check.due("22: there is a way", 16, x.way(0, 24, 0));
+        Check.due("22: but wherever it is pitched there is none", Check.NONE, x.pitchFor(0, 0, 24, 0));
+    }
+
     private static void kindFor() {
         GroundTents x = Check.camp("stiff on 0 felt 90 90 90 90");
         // one day: tent 70, stiff 90, soft 50, patched 51, chiefs 54, old 60, laced 91
@@ -89,6 +103,10 @@ public final class PitchTest {
         Check.due("23: nothing changes", 1, x.of(0, 0));
         Check.due("23: no height changes", 47, x.cell(0, 0));
         Check.due("23: sixty days", 3, x.kindFor(0, 60));
+        GroundTents y = Check.camp("soft on 0 felt 1 50 50 50;height 0 0;height 20 1;height 24 99");
+        Check.due("23: 98 is less than 99", 1, y.kindFor(0, 1));
+        y.height(20, 0);
+        Check.due("23: 99 for all", 0, y.kindFor(0, 1));
         int[][] wrong = {{-1, 0}, {1, 0}, {0, -1}, {0, 61}};
         for (int[] w : wrong) {
             Check.due("23: kindFor(" + w[0] + ", " + w[1] + ")", Check.BEYOND, x.kindFor(w[0], w[1]));
@@ -144,10 +162,7 @@ public final class PitchTest {
                 x.go(1);
                 days++;
             }
-            int want = days > 60 || x.of(0, 4) > h + 5 ? Check.NONE : days;
-            if (want != Check.NONE) {
-                Check.due("25: out at height " + (h + 5), want, lowCamp().out(0, 0, h + 5, 5));
-            }
+            Check.due("25: out at height " + (h + 5), days, lowCamp().out(0, 0, h + 5, 5));
         }
     }
 

@@ -137,6 +137,8 @@ public final class SheetsTest {
         Check.due("40: too steep", 3, x.judge(0, 9));
         Check.sheet(x, 0, 8, 2, 1, 0);
         Check.due("40: too steep, down", 2, x.judge(0, 9));
+        Check.sheet(x, 0, 8, 24, 19, 18, 23, 24);
+        Check.due("40: up, left, down, right", 0, x.judge(0, 0));
         Check.sheet(x, 0, 8);
         Check.due("40: no numbers", 0, x.judge(0, 0));
         Check.sheet(x, 0, 32, 24);

@@ -96,6 +96,18 @@ public final class TextsTest {
         fault("tent felt 1 2 3 4 worn 5", 18);
         fault("tent 5", 5);
         fault("Tent", 0);
+        fault("cry 5", 0);
+        fault("tend", 0);
+        fault("tentz", 0);
+        fault("tenta", 0);
+        fault("tent`", 4);
+        fault("tent{", 4);
+        fault("tent on 1/", 9);
+        fault("tent on 1:", 9);
+        fault("ten", 0);
+        fault("tent an 5", 5);
+        fault("tent born 5", 5);
+        fault("tent melt 1 2 3 4", 5);
         fault("tenT", 0);
         fault("tent.", 4);
         fault("tent\t", 4);
