@@ -50,7 +50,7 @@ public final class AheadTest {
         Check.due("17: behind a day", 1, x.when(0, 1, 29));
         Check.due("17: never", Check.NONE, x.when(0, 1, 14));
         Check.due("17: just so", 1, x.when(0, 1, 15));
-        x = slowRise();
+        x = Camps.slowRise();
         Check.due("17: behind 60 days", 60, x.when(0, 24, 42));
         Check.due("17: behind 100 days", 100, x.when(0, 24, 2));
         Check.due("17: behind 101 days, which is not asked", Check.NONE, x.when(0, 24, 1));
@@ -64,34 +64,15 @@ public final class AheadTest {
         Check.due("17: there", 0, x.when(0, 24, 1));
     }
 
-    /** Chiefs lift cell 0 by 3 a day and a tent halves that (cut), so it rises from 0 by 1 a day, but on the first three. */
-    private static GroundTents slowRise() {
-        GroundTents x = Check.camp("old on 0;chiefs on 0;tent on 0;height 0 0");
-        for (int c = 1; c < 25; c++) {
-            x.height(c, 99);
-        }
-        return x;
-    }
-
-    /** The same, with a soft tent that lies level only once nothing rises any more. */
-    private static GroundTents slowLevel(int old, int chiefs, int tent) {
-        GroundTents x = Check.camp("soft on 0;old on 0;chiefs on 0;tent on 0;height 0 0");
-        x.change(0, 4, 99);
-        x.change(1, 4, old);
-        x.change(2, 4, chiefs);
-        x.change(3, 4, tent);
-        return x;
-    }
-
     private static void slowOnes() {
         // felt of the old one, the chiefs and the tent; days until the ground is still; the soft one lies level a day later
         int[][] camps = {{1, 4, 5, 99}, {1, 4, 4, 99}, {-1, 2, 2, 100}, {0, 1, 4, 100}, {-1, 0, 0, 101}, {0, -1, 2, 101}};
         for (int[] c : camps) {
             String felt = c[0] + ", " + c[1] + ", " + c[2];
             int still = c[3];
-            Check.due("18: days by going, felt " + felt, still, daysUntilStill(slowLevel(c[0], c[1], c[2])));
-            Check.due("19: days by going, felt " + felt, still + 1, daysUntilLevel(slowLevel(c[0], c[1], c[2])));
-            GroundTents x = slowLevel(c[0], c[1], c[2]);
+            Check.due("18: days by going, felt " + felt, still, daysUntilStill(Camps.slowLevel(c[0], c[1], c[2])));
+            Check.due("19: days by going, felt " + felt, still + 1, daysUntilLevel(Camps.slowLevel(c[0], c[1], c[2])));
+            GroundTents x = Camps.slowLevel(c[0], c[1], c[2]);
             Check.due("18: settles, felt " + felt, still > 100 ? Check.NONE : still, x.settles());
             Check.due("19: lies, felt " + felt, still + 1 > 100 ? Check.NONE : still + 1, x.lies(0, 0));
             x.go(2);
