@@ -9,8 +9,10 @@ import java.util.ArrayList;
 import java.util.List;
 import java.util.Set;
 import java.util.TreeSet;
+import java.util.regex.Matcher;
+import java.util.regex.Pattern;
 
-/** The document's face and what of LANGUAGE.md can be seen from outside; takes the class's source as its argument. */
+/** The document's face and what of LANGUAGE.md can be seen from outside; takes the checkout's path. */
 public final class RulesTest {
     private static final String FACE = "height(int,int) spring(int,int) cell(int,int) tent(int) of(int,int) change(int,int,int) "
         + "beat(int) go(int) now(int) way(int,int,int) climb(int,int) reach(int,int) drink(int,int) ahead(int,int) "
@@ -22,7 +24,7 @@ public final class RulesTest {
     public static void main(String[] args) throws IOException {
         face();
         hidden();
-        source(Files.readString(Path.of(args[0])));
+        source(Files.readString(Path.of(args[0], "src/main/java/GroundTents.java")));
         Check.end();
     }
 
@@ -100,7 +102,21 @@ public final class RulesTest {
         due("nothing that ends in Exact", !code.matches("(?s).*Exact\\b.*"));
         due("one import, of Arrays", code.split("\\bimport\\b").length == 2 && code.contains("import java.util.Arrays;"));
         due("signs 1 to 127", text.chars().allMatch(c -> c >= 1 && c <= 127));
+        library(code);
         methodLengths(text);
+    }
+
+    /** Rule 4: of other classes only these; of Integer, Long and Math any function but those seen above. */
+    private static void library(String code) {
+        Set<String> free = new TreeSet<>(List.of("Integer", "Long", "Math"));
+        for (Class<?> inside : GroundTents.class.getDeclaredClasses()) {
+            free.add(inside.getSimpleName());
+        }
+        Set<String> listed = Set.of("System.arraycopy", "Arrays.copyOf", "Arrays.copyOfRange", "Arrays.fill");
+        Matcher used = Pattern.compile("\\b([A-Z][A-Za-z]*[a-z])\\.(\\w+)").matcher(code.replace("import java.util.Arrays;", ""));
+        while (used.find()) {
+            due("rule 4 lists " + used.group(), free.contains(used.group(1)) || listed.contains(used.group()));
+        }
     }
 
     private static void methodLengths(String text) {
